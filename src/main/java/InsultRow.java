@@ -550,11 +550,7 @@ public final class InsultRow {
         Row walking = rowNow();
         int noise = 0;
         for (int k = 1; k < walking.size; k++) {
-            int first = walking.order[k - 1];
-            int second = walking.order[k];
-            if (first < CAKE && second < CAKE) {
-                noise += told.noiseOf(first, second);
-            }
+            noise += told.noiseOf(walking.order[k - 1], walking.order[k]);
         }
         return noise;
     }
@@ -1055,10 +1051,8 @@ public final class InsultRow {
             }
             if (kind == ROUND_SHUT) {
                 rounds--;
-                state = BEHIND_ATOM;
             } else {
                 squares--;
-                compared = true;
                 state = BEHIND_SQUARE;
             }
         }
@@ -1333,6 +1327,7 @@ public final class InsultRow {
             return xs.length;
         }
 
+        /** Of cakes there is none. */
         int noiseOf(int first, int second) {
             return isOne(first) && isOne(second) ? louds[first] * verses[second] : 0;
         }
