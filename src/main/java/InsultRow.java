@@ -103,7 +103,7 @@ public final class InsultRow {
     private final Row row = new Row();
     private final Quiet quiet = new Quiet();
     // What nights would bring is tried on this one, so that the true standing stays.
-    private final Standing trial = new Standing(fair.now.carnival);
+    private final Standing trial = new Standing(new Carnival());
     private final long[] nightsGone = new long[FAR_NIGHTS + 1];
 
     /** No guilds, no streets, trays missing, an empty tape. */
@@ -934,7 +934,7 @@ public final class InsultRow {
         private int size;
         // At most one operation of each strength waits at each depth.
         private final int[] waiting = new int[64];
-        private int wait;
+        private int waits;
         private int state;
         private int deep;
         private int rounds;
@@ -944,7 +944,7 @@ public final class InsultRow {
         /** The code of the law behind the token that begins it, up to its semicolon; null with a fault. */
         int[] read(Tokens tokens) {
             size = 0;
-            wait = 0;
+            waits = 0;
             state = WANTS_UNIT;
             deep = 0;
             rounds = 0;
@@ -1045,8 +1045,8 @@ public final class InsultRow {
         }
 
         private void takeShut(int kind) {
-            if (wait > 0) {
-                wait--;
+            if (waits > 0) {
+                waits--;
                 deep--;
             }
             if (kind == ROUND_SHUT) {
@@ -1058,10 +1058,10 @@ public final class InsultRow {
         }
 
         private void unwind(int least) {
-            while (wait > 0 && strength(waiting[wait - 1]) >= least) {
-                wait--;
-                emit(CODE + waiting[wait]);
-                if (waiting[wait] == NOT) {
+            while (waits > 0 && strength(waiting[waits - 1]) >= least) {
+                waits--;
+                emit(CODE + waiting[waits]);
+                if (waiting[waits] == NOT) {
                     deep--;
                 }
             }
@@ -1100,9 +1100,9 @@ public final class InsultRow {
         }
 
         private void push(int kind) {
-            if (wait < waiting.length) {
-                waiting[wait] = kind;
-                wait++;
+            if (waits < waiting.length) {
+                waiting[waits] = kind;
+                waits++;
             }
         }
     }
@@ -1286,14 +1286,8 @@ public final class InsultRow {
             may = told.may;
             answers = told.answers;
             answersByNight = tellsOfNight(told.answers);
-            int last = 0;
-            for (int i = 0; i < told.streets; i++) {
-                last += told.paces[i];
-            }
-            xs = new int[last + 1];
-            ys = new int[last + 1];
-            layWay(told, xs, STEP_X);
-            layWay(told, ys, STEP_Y);
+            xs = wayOf(told, STEP_X);
+            ys = wayOf(told, STEP_Y);
         }
 
         private static int[] flagOfAll(Reader told, int flag) {
@@ -1312,7 +1306,12 @@ public final class InsultRow {
             return false;
         }
 
-        private static void layWay(Reader told, int[] way, int[] stepBy) {
+        private static int[] wayOf(Reader told, int[] stepBy) {
+            int last = 0;
+            for (int i = 0; i < told.streets; i++) {
+                last += told.paces[i];
+            }
+            int[] way = new int[last + 1];
             int at = 0;
             for (int i = 0; i < told.streets; i++) {
                 int by = stepBy[told.turns[i]];
@@ -1321,6 +1320,7 @@ public final class InsultRow {
                     at++;
                 }
             }
+            return way;
         }
 
         int steps() {
@@ -1796,8 +1796,8 @@ public final class InsultRow {
         private int bestBehind(Carnival told, int walking, int last) {
             int best = NONE;
             for (int i = 0; i < many; i++) {
-                boolean waits = (walking & 1 << i) == 0;
-                if (waits && (best == NONE || with(told, walking, last, i) < with(told, walking, last, best))) {
+                boolean isLeft = (walking & 1 << i) == 0;
+                if (isLeft && (best == NONE || with(told, walking, last, i) < with(told, walking, last, best))) {
                     best = i;
                 }
             }
