@@ -237,7 +237,7 @@ public final class PromiseTest {
         tell(y, "guild;guild;");
         due("nobody mocks in the new one", y.count(5), 0);
         due("rank of the new one", y.guild(0, 1), 0);
-        due("nor has one mockers", y.guild(2 - 1, 6), 0);
+        due("nor has one mockers", y.guild(0, 6), 0);
         tell(y, "guild;street east 3;answers 1=1;may 1=1;");
         tell(y, "street east 1;");
         due("streets of the new one", y.count(2), 1);
@@ -474,8 +474,9 @@ public final class PromiseTest {
 
     private static void dueLaw(String law, boolean holds) {
         // 0 and 2 mock 1, 1 mocks 0, 3 mocks 2; five nights have gone by.
-        InsultRow x = of("guild rank 2 long 3;guild rank 11 long 7;guild;guild;mocks 0 1;mocks 2 1;mocks 1 0;mocks 3 2;may "
-                + law + ";");
+        InsultRow x = afterFault();
+        due("lines with " + law, tell(x, "guild rank 2 long 3;guild rank 11 long 7;guild;guild;mocks 0 1;mocks 2 1;mocks 1 0;"
+                + "mocks 3 2;may " + law + ";"), 9);
         x.nights(5);
         due("may(0, 1) by " + law, x.may(0, 1) ? 1 : 0, holds ? 1 : 0);
     }
