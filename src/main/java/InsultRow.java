@@ -549,8 +549,9 @@ public final class InsultRow {
         Carnival told = fair.now.carnival;
         Row walking = rowNow();
         int noise = 0;
-        for (int k = 1; k < walking.size; k++) {
-            noise += told.noiseOf(walking.order[k - 1], walking.order[k]);
+        // Who begins a chain walks just behind no guild, whatever chain stands ahead of it.
+        for (int g = 0; g < walking.guilds; g++) {
+            noise += told.noiseOf(g, walking.behind[g]);
         }
         return noise;
     }
@@ -1327,7 +1328,7 @@ public final class InsultRow {
             return xs.length;
         }
 
-        /** Of cakes there is none. */
+        /** Of nobody there is none. */
         int noiseOf(int first, int second) {
             return isOne(first) && isOne(second) ? louds[first] * verses[second] : 0;
         }

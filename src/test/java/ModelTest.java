@@ -1085,8 +1085,9 @@ public final class ModelTest {
 
         int noise() {
             int s = 0;
-            List<Integer> row = row();
-            for (int i = 1; i < row.size(); i++) if (row.get(i) < 100 && row.get(i - 1) < 100) s += between(row.get(i - 1), row.get(i));
+            for (List<Integer> chain : chainList()) for (int i = 1; i < chain.size(); i++) {
+                if (chain.get(i - 1) < 100) s += between(chain.get(i - 1), chain.get(i));
+            }
             return s;
         }
 

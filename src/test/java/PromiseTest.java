@@ -1123,7 +1123,10 @@ public final class PromiseTest {
         due("no guilds", new InsultRow().noise(), 0);
         due("none behind a cake", of("guild loud 9 verse 9;guild loud 9 verse 9;guild loud 9 verse 9;mocks 1 0;mocks 2 0;").noise(), 81);
         due("loud of the first, verse of the second", of("guild loud 2 verse 7;guild loud 5 verse 3;mocks 1 0;").noise(), 6);
-        due("chains one behind the other", of("guild loud 2 verse 7;guild loud 5 verse 3;").noise(), 6);
+        due("the first of a chain is behind none", of("guild loud 2 verse 7;guild loud 5 verse 3;").noise(), 0);
+        due("chains of two", of("guild loud 9;guild loud 9 verse 2;guild loud 5 verse 9;guild verse 3;mocks 1 0;mocks 3 2;").noise(), 33);
+        due("a ring opened", of("guild loud 3 verse 5;guild loud 7 verse 2;guild loud 9 verse 4;mocks 0 1;mocks 1 0;mocks 2 1;").noise(), 34);
+        due("a shut ring", of("guild loud 3 verse 5;guild loud 7 verse 2;mocks 0 1;mocks 1 0;").noise(), 35);
         due("three", of("guild loud 2;guild loud 5 verse 3;guild verse 4;mocks 1 0;mocks 2 1;").noise(), 26);
     }
 
