@@ -739,6 +739,11 @@ public final class BoundaryTest {
         x.mock(0, 1);
         due("one behind a RING of two", x.below(9), 9);
         due("one of a RING of two", x.below(0), 1);
+        InsultRow y = Bounds.of(Bounds.TEN + "mocks 9 8;mocks 7 9;");
+        int[] want = {0, 0, 0, 0, 0, 0, 0, 2, 0, 1};
+        for (int g = 0; g < 10; g++) {
+            due("below(" + g + ") of the last three", y.below(g), want[g]);
+        }
     }
 
     private static void cakesAndChains() {
@@ -914,6 +919,13 @@ public final class BoundaryTest {
             }
             due("quietest(" + set + ", 0)", x.quietest(set, 0), 81 * (g - 2));
         }
+        for (int g = 9; g >= 2; g--) {
+            due("fewer again, " + set, x.quietest(set, 0), 81 * (g - 2));
+            due("the last of " + set, x.quietest(set, 10 + g - 2), g);
+            set &= ~(1 << g);
+        }
+        due("none again", x.quietest(0, 0), 0);
+        due("the first of none", x.quietest(0, 10), NONE);
         Bounds.says("3 QUIETEST: of like ones the first by numbers");
         InsultRow y = Bounds.of("guild loud 1 verse 1;guild loud 1 verse 1;guild;");
         int[] order = {0, 2, 1};
@@ -1212,6 +1224,26 @@ public final class BoundaryTest {
         due("the latest", y.undo(1), 9);
         due("its RANK was another one", y.guild(9, 1), 0);
         due("all others", y.undo(9), 0);
+        InsultRow z = Bounds.of("guild rank 50;");
+        for (int i = 1; i <= 10; i++) {
+            z.rank(0, i);
+        }
+        z.image(2);
+        for (int i = 11; i <= 30; i++) {
+            z.rank(0, i);
+        }
+        z.restore(2);
+        due("the eldest, too", z.undo(10), 0);
+        due("the RANK ahead of it", z.guild(0, 1), 50);
+        z.restore(2);
+        for (int i = 1; i <= 10; i++) {
+            due("one by one", z.undo(1), 10 - i);
+            due("the RANK then", z.guild(0, 1), i < 10 ? 10 - i : 50);
+        }
+        z.restore(2);
+        z.rank(0, 99);
+        due("one more, the eldest is forgotten", z.undo(10), 0);
+        due("the RANK behind that", z.guild(0, 1), 1);
     }
 
     private static void count() {

@@ -3,6 +3,15 @@ public final class TextBoundaryTest {
     private static final int NONE = Bounds.NONE;
     private static final String SIGNS = ";+-*()[]=<>";
 
+    // Tokens with a blank ahead of and behind each.
+    private static final String ALL = "guild mocks may answers street rank long loud verse melts north east south west or and not"
+            + " ra rb la lb ma mb mutual night ; + - * ( ) [ ] = < > 1 nights x";
+    private static final String SUM_BEGINS = " ra rb la lb ma mb mutual night ( 1 ";
+    private static final String UNIT_BEGINS = SUM_BEGINS + "not [ ";
+    private static final String SUM_GOES_ON = " + - * ";
+    private static final String COMPARED = SUM_GOES_ON + "= < > ";
+    private static final String FLAG = " rank long loud verse melts ";
+
     public static void main(String[] args) {
         bytesOfAText();
         noText();
@@ -17,6 +26,7 @@ public final class TextBoundaryTest {
         laterMocks();
         streets();
         linesEnd();
+        whatCanStandThere();
         theEnd();
         theEndWithinATape();
         firstAlongTheText();
@@ -271,6 +281,62 @@ public final class TextBoundaryTest {
         Bounds.faulty("may not;", 2, 7);
         Bounds.faulty("street;", 2, 6);
         Bounds.faulty("mocks;", 2, 5);
+    }
+
+    /** Behind a beginning, those tokens can stand that are named; all others are a fault of kind 2 there. */
+    private static void stands(String beginning, String can) {
+        for (String token : ALL.split(" ")) {
+            String text = "guild;guild;" + beginning + " " + token;
+            InsultRow x = new InsultRow();
+            int answer = Bounds.tell(x, text);
+            boolean stands = can.contains(" " + token + " ");
+            boolean ends = stands && token.equals(";");
+            // What can stand there ends the line, or wants more at the end of the text.
+            Bounds.due("'" + text + "'", answer, ends ? 3 : -12);
+            Bounds.due("'" + text + "', place", x.fault(1),
+                    ends ? NONE : stands ? text.length() : text.length() - token.length());
+            Bounds.due("'" + text + "', lines that stay", x.count(0), ends ? 3 : 0);
+        }
+    }
+
+    private static void whatCanStandThere() {
+        Bounds.says("2 it can't stand there");
+        stands("", " guild mocks may answers street ");
+        stands("guild", FLAG + "; ");
+        stands("guild rank", " 1 ");
+        stands("guild rank 1", FLAG + "; ");
+        stands("mocks", " 1 ");
+        stands("mocks 0", " 1 ");
+        stands("mocks 0 1", " ; ");
+        stands("street", " north east south west ");
+        stands("street north", " 1 ");
+        stands("street north 1", " ; ");
+        for (String law : new String[] {"may", "answers"}) {
+            for (String end : new String[] {"", " not", " [", " not not", " not [", " [ not", " 1=1 and", " 1=1 or", " [ 1=1 and",
+                " not 1=1 or", " [1=1] and", " (1)=1 or"}) {
+                stands(law + end, UNIT_BEGINS);
+                stands(law + end + " 1", COMPARED);
+                stands(law + end + " (1)", COMPARED);
+                stands(law + end + " 1+(1)", COMPARED);
+                boolean square = end.contains("[") && !end.contains("]");
+                String shut = (square ? "] " : "; ") + "and or ";
+                for (String sum : new String[] {" 1", " 1=1", " 1<1*1", " 1>(1)"}) {
+                    boolean compared = sum.length() > 2;
+                    stands(law + end + sum, compared ? SUM_GOES_ON + shut : COMPARED);
+                    stands(law + end + sum + " +", SUM_BEGINS);
+                    stands(law + end + sum + " - (", SUM_BEGINS);
+                    stands(law + end + sum + " * ( 1", SUM_GOES_ON + ") ");
+                    stands(law + end + sum + " + ( ra - (lb) ", SUM_GOES_ON + ") ");
+                }
+                stands(law + end + " 1 =", SUM_BEGINS);
+                stands(law + end + " 1 < (", SUM_BEGINS);
+                stands(law + end + " 1 > (1", SUM_GOES_ON + ") ");
+                stands(law + end + " [1=1", SUM_GOES_ON + "] and or ");
+                stands(law + end + " [1=1]", " " + shut);
+                stands(law + end + " (", SUM_BEGINS);
+                stands(law + end + " (1", SUM_GOES_ON + ") ");
+            }
+        }
     }
 
     private static void theEnd() {

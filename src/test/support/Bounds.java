@@ -1,4 +1,5 @@
 import java.util.ArrayList;
+import java.util.Arrays;
 import java.util.List;
 import java.util.NoSuchElementException;
 
@@ -219,10 +220,10 @@ final class Bounds {
 
     // ---- looks; those that change something come on an object of their own
 
-    static final Look[] LOOKS = {Bounds::lookAtNow, Bounds::lookAtMarks, Bounds::lookAtTrays, Bounds::lookAtDeeds,
-        Bounds::lookAtImages, Bounds::lookAtTape};
-    private static final Look[] BUT_TAPE_AND_FAULT = {Bounds::lookAtNow, Bounds::lookAtTrays, Bounds::lookAtDeeds,
-        Bounds::lookAtImages};
+    static final Look[] LOOKS = {Bounds::lookAtNow, Bounds::lookAtTrays, Bounds::lookAtDeeds,
+        (x, seen) -> lookAtImage(x, 0, seen), (x, seen) -> lookAtImage(x, 1, seen), (x, seen) -> lookAtImage(x, 2, seen),
+        Bounds::lookAtMarks, Bounds::lookAtTape};
+    private static final Look[] BUT_TAPE_AND_FAULT = Arrays.copyOf(LOOKS, LOOKS.length - 2);
 
     private static void note(StringBuilder seen, String what, Call call, InsultRow x) {
         seen.append(what).append(' ').append(answerOf(call, x)).append('\n');
@@ -300,23 +301,17 @@ final class Bounds {
     }
 
     private static void lookAtDeeds(InsultRow x, StringBuilder seen) {
+        noteStanding(x, seen);
         for (int i = 0; i <= 10; i++) {
             note(seen, "undo(1)", y -> y.undo(1), x);
             noteStanding(x, seen);
         }
     }
 
-    private static void lookAtImages(InsultRow x, StringBuilder seen) {
-        for (int k = 0; k < 3; k++) {
-            int i = k;
-            note(seen, "restore(" + i + ")", y -> { y.restore(i); return 0; }, x);
-            noteCounts(x, seen);
-            noteStanding(x, seen);
-            for (int d = 0; d < 3; d++) {
-                note(seen, "undo(3)", y -> y.undo(3), x);
-                noteStanding(x, seen);
-            }
-        }
+    private static void lookAtImage(InsultRow x, int i, StringBuilder seen) {
+        note(seen, "restore(" + i + ")", y -> { y.restore(i); return 0; }, x);
+        noteCounts(x, seen);
+        lookAtDeeds(x, seen);
     }
 
     private static void lookAtTape(InsultRow x, StringBuilder seen) {
