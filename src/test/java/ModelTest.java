@@ -21,6 +21,12 @@ public final class ModelTest {
         for (int seed = 0; seed < 6000; seed++) {
             readFaultyText(new Random(seed * 7919L + 13));
         }
+        for (int seed = 0; seed < 20000; seed++) {
+            readLaw(new Random(seed * 104729L + 5));
+        }
+        for (int seed = 0; seed < 6000; seed++) {
+            readManyLines(new Random(seed * 15485863L + 3));
+        }
         if (wrong != 0) {
             System.out.println(wrong + " answers of ModelTest are not as due");
             System.exit(1);
@@ -66,15 +72,114 @@ public final class ModelTest {
         if (text.length() > 880) {
             text.setLength(880);
         }
+        compareTold(text.toString(), new InsultRow(), new Model());
+    }
+
+    /** What is told, found faulty or taken, of one text. */
+    static void compareTold(String text, InsultRow x, Model m) {
+        feed(x, m, text);
+        int n = text.length();
+        String shown = text.replace('\n', '_');
+        due("carnival of " + shown, answerOf(() -> x.carnival(n)), answerOf(() -> m.carnival(n)));
+        for (int what = 0; what < 2; what++) {
+            due("fault(" + what + ") of " + shown, "" + x.fault(what), "" + m.fault(what));
+        }
+        for (int what = 0; what < 10; what++) {
+            due("count(" + what + ") of " + shown, "" + x.count(what), "" + m.count(what));
+        }
+    }
+
+    /** A law of parts that go up to eight deep, some of them changed, and whom it lets mock whom. */
+    static void readLaw(Random r) {
+        List<String> law = new ArrayList<>();
+        Laws.truth(r, law, 0);
+        String[] parts = {"not", "[", "]", "(", ")", "and", "or", "=", "<", ">", "+", "-", "*", ";", "7", "ra", "mb",
+            "night", "guild", "?", "1000"};
+        for (int edits = r.nextInt(3); edits > 0 && !law.isEmpty(); edits--) {
+            int at = r.nextInt(law.size());
+            int sort = r.nextInt(3);
+            if (sort > 0) law.remove(at);
+            if (sort < 2) law.add(at, parts[r.nextInt(parts.length)]);
+        }
+        String text = "guild rank 3;guild rank 7 long 2;guild long 9;mocks 0 1;mocks 1 0;mocks 2 1;may "
+                + String.join(r.nextBoolean() ? " " : "\n", law) + ";";
+        if (text.length() > 900) return;
         InsultRow x = new InsultRow();
         Model m = new Model();
-        feed(x, m, text.toString());
-        int n = text.length();
-        String shown = text.toString().replace('\n', '_');
-        due("carnival of " + shown, answerOf(() -> x.carnival(n)), answerOf(() -> m.carnival(n)));
-        due("fault(0) of " + shown, "" + x.fault(0), "" + m.fault(0));
-        due("fault(1) of " + shown, "" + x.fault(1), "" + m.fault(1));
-        due("count(1) of " + shown, "" + x.count(1), "" + m.count(1));
+        compareTold(text, x, m);
+        for (int k = 0; k < 9; k++) {
+            int a = k / 3;
+            int b = k % 3;
+            due("may(" + a + "," + b + ") of " + text, answerOf(() -> x.may(a, b) ? 1 : 0), answerOf(() -> m.may(a, b) ? 1 : 0));
+        }
+    }
+
+    /** Short lines of all sorts, at times too many of one, and parts changed. */
+    static void readManyLines(Random r) {
+        List<String> text = new ArrayList<>();
+        String[] lines = {"guild ;", "guild rank 9 ;", "guild loud 9 loud 3 ;", "street east 20 ;", "street north 1 ;",
+            "mocks 0 1 ;", "mocks 1 0 ;", "mocks 2 1 ;", "may ra < rb ;", "answers mutual = 1 ;"};
+        int bound = 2 + r.nextInt(lines.length - 1);
+        for (int i = r.nextInt(45); i > 0; i--) {
+            int pick = i > 35 ? 0 : r.nextInt(bound);
+            text.addAll(Arrays.asList(lines[pick].split(" ")));
+        }
+        String[] parts = {";", "guild", "mocks", "street", "north", "west", "rank", "melts", "may", "0", "1", "2", "9", "10",
+            "20", "21", "99", "100", "(", "=", "word", "?", "0000"};
+        for (int edits = r.nextInt(3); edits > 0 && !text.isEmpty(); edits--) {
+            int at = r.nextInt(text.size());
+            int sort = r.nextInt(3);
+            if (sort > 0) text.remove(at);
+            if (sort < 2) text.add(at, parts[r.nextInt(parts.length)]);
+        }
+        String all = String.join(" ", text);
+        if (all.length() <= 900) compareTold(all, new InsultRow(), new Model());
+    }
+
+    /** Random laws by the parts they are made of, deeper than a text may go. */
+    static final class Laws {
+        static void truth(Random r, List<String> law, int deep) {
+            unit(r, law, deep);
+            while (r.nextInt(4) == 0) {
+                law.add(r.nextBoolean() ? "and" : "or");
+                unit(r, law, deep);
+            }
+        }
+
+        private static void unit(Random r, List<String> law, int deep) {
+            int sort = deep < 8 ? r.nextInt(4) : 3;
+            if (sort == 0) {
+                law.add("not");
+                unit(r, law, deep + 1);
+            } else if (sort == 1) {
+                law.add("[");
+                truth(r, law, deep + 1);
+                law.add("]");
+            } else {
+                sum(r, law, deep);
+                law.add("" + "=<>".charAt(r.nextInt(3)));
+                sum(r, law, deep);
+            }
+        }
+
+        private static void sum(Random r, List<String> law, int deep) {
+            atom(r, law, deep);
+            while (r.nextInt(4) == 0) {
+                law.add("" + "+-*".charAt(r.nextInt(3)));
+                atom(r, law, deep);
+            }
+        }
+
+        private static void atom(Random r, List<String> law, int deep) {
+            String[] words = {"ra", "rb", "la", "lb", "ma", "mb", "mutual", "night"};
+            if (deep < 8 && r.nextInt(4) == 0) {
+                law.add("(");
+                sum(r, law, deep + 1);
+                law.add(")");
+            } else {
+                law.add(r.nextInt(3) == 0 ? "" + r.nextInt(r.nextBoolean() ? 5 : 1000) : words[r.nextInt(words.length)]);
+            }
+        }
     }
 
     static void feed(InsultRow x, Model m, String text) {
